@@ -2,6 +2,8 @@
 public final class ModelTest {
     private static final int RUNS = 3000;
     private static final int CALLS = 25;
+    private static final int LONG_RUNS = 12;
+    private static final int LONG_CALLS = 3000;
     private static final int[] ODD = {Integer.MIN_VALUE, -1001, -6, -3, -2, -1, 2, 10, 11, 16, 32, 1001,
         Integer.MAX_VALUE};
     private static final int[][] COSTS = {{0, 0, 1}, {1, 1, 2, -1}, {0, 1, 2, 3, -1}, {1000, 999, 0, 7},
@@ -28,14 +30,21 @@ public final class ModelTest {
 
     public static void main(String[] args) {
         for (int number = 0; number < RUNS; number++) {
-            ModelTest run = new ModelTest(number);
-            run.fill();
-            for (int call = 0; call < CALLS; call++) {
-                run.makeCall();
-                run.compareReaders();
-            }
+            new ModelTest(number).run(CALLS);
+        }
+        // One object for thousands of calls: nothing may wear out or build up.
+        for (int number = RUNS; number < RUNS + LONG_RUNS; number++) {
+            new ModelTest(number).run(LONG_CALLS);
         }
         CHECKS.end();
+    }
+
+    private void run(int calls) {
+        fill();
+        for (int call = 0; call < calls; call++) {
+            makeCall();
+            compareReaders();
+        }
     }
 
     private int next(int limit) {
