@@ -75,11 +75,11 @@ public final class ChannelEdgeTest {
     private static void alteredBitChangesNothing() {
         CHECKS.sentence("Promise 14", "It changes nothing.");
         for (State state : State.all()) {
-            SyndromeEmbedder x = state.make();
-            for (int index : Ints.any()) {
-                x.alteredBit(index);
-            }
-            CHECKS.same(state.name, Transcript.life(x), Transcript.life(state.make()));
+            CHECKS.changeNothing(state.name, state::make, x -> {
+                for (int index : Ints.any()) {
+                    x.alteredBit(index);
+                }
+            });
         }
     }
 
@@ -87,11 +87,11 @@ public final class ChannelEdgeTest {
         CHECKS.sentence("Promise 15", "First: NO_RESULT if the result is absent, whatever the argument.");
         for (State state : State.all()) {
             if (!state.hasResult) {
-                SyndromeEmbedder x = state.make();
-                for (int index : Ints.any()) {
-                    CHECKS.due(state.name + ": flip(" + index + ")", x.flip(index), NO_RESULT);
-                }
-                CHECKS.same(state.name, Transcript.life(x), Transcript.life(state.make()));
+                CHECKS.changeNothing(state.name, state::make, x -> {
+                    for (int index : Ints.any()) {
+                        CHECKS.due(state.name + ": flip(" + index + ")", x.flip(index), NO_RESULT);
+                    }
+                });
             }
         }
     }
@@ -100,12 +100,12 @@ public final class ChannelEdgeTest {
         CHECKS.sentence("Promise 15", "Then: BAD if index is not in 0..n-1.");
         for (State state : State.all()) {
             if (state.hasResult) {
-                SyndromeEmbedder x = state.make();
-                for (int index : Ints.outside(0, state.n - 1)) {
-                    CHECKS.due(state.name + ": flip(" + index + ")", x.flip(index), BAD);
-                    CHECKS.due(state.name + ": extractBit(0)", x.extractBit(0), state.make().extractBit(0));
-                }
-                CHECKS.same(state.name, Transcript.life(x), Transcript.life(state.make()));
+                CHECKS.changeNothing(state.name, state::make, x -> {
+                    for (int index : Ints.outside(0, state.n - 1)) {
+                        CHECKS.due(state.name + ": flip(" + index + ")", x.flip(index), BAD);
+                        CHECKS.due(state.name + ": extractBit(0)", x.extractBit(0), state.make().extractBit(0));
+                    }
+                });
             }
         }
     }
@@ -179,25 +179,25 @@ public final class ChannelEdgeTest {
         CHECKS.sentence("Promise 15", "Flipping the same index a second time restores that bit of the received vector.");
         for (State state : State.all()) {
             if (state.hasResult) {
-                SyndromeEmbedder x = state.make();
-                List<String> old = Transcript.readers(x);
-                for (int i = 0; i < state.n; i++) {
-                    for (int times = 2; times <= 6; times += 2) {
+                CHECKS.changeNothing(state.name, state::make, x -> {
+                    List<String> old = Transcript.readers(x);
+                    for (int i = 0; i < state.n; i++) {
+                        for (int times = 2; times <= 6; times += 2) {
+                            x.flip(i);
+                            x.flip(i);
+                            CHECKS.same(state.name + ", " + i + " flipped " + times, Transcript.readers(x), old);
+                        }
                         x.flip(i);
+                        for (int other = 0; other < state.n; other++) {
+                            x.flip(other);
+                        }
+                        for (int other = state.n - 1; other >= 0; other--) {
+                            x.flip(other);
+                        }
                         x.flip(i);
-                        CHECKS.same(state.name + ", " + i + " flipped " + times, Transcript.readers(x), old);
+                        CHECKS.same(state.name + ", " + i + " flipped among others", Transcript.readers(x), old);
                     }
-                    x.flip(i);
-                    for (int other = 0; other < state.n; other++) {
-                        x.flip(other);
-                    }
-                    for (int other = state.n - 1; other >= 0; other--) {
-                        x.flip(other);
-                    }
-                    x.flip(i);
-                    CHECKS.same(state.name + ", " + i + " flipped among others", Transcript.readers(x), old);
-                }
-                CHECKS.same(state.name, Transcript.life(x), Transcript.life(state.make()));
+                });
             }
         }
     }
@@ -266,11 +266,11 @@ public final class ChannelEdgeTest {
     private static void extractChangesNothing() {
         CHECKS.sentence("Promise 16", "It changes nothing.");
         for (State state : State.all()) {
-            SyndromeEmbedder x = state.make();
-            for (int row : Ints.any()) {
-                x.extractBit(row);
-            }
-            CHECKS.same(state.name, Transcript.life(x), Transcript.life(state.make()));
+            CHECKS.changeNothing(state.name, state::make, x -> {
+                for (int row : Ints.any()) {
+                    x.extractBit(row);
+                }
+            });
         }
     }
 }

@@ -1,4 +1,6 @@
 import java.util.List;
+import java.util.function.Consumer;
+import java.util.function.Supplier;
 
 /** Counts and prints the answers that are not the ones that are due; what every test ends with. */
 final class Checks {
@@ -42,6 +44,16 @@ final class Checks {
             String wantLine = line < want.size() ? want.get(line) : "the end";
             System.out.println(sentence + when + ": " + gotLine + ", due is " + wantLine);
         }
+    }
+
+    /** An object that has had the calls tells the same as one made alike that has not. */
+    void changeNothing(String when, Supplier<SyndromeEmbedder> maker, Consumer<SyndromeEmbedder> calls) {
+        List<String> got = Transcript.life(() -> {
+            SyndromeEmbedder x = maker.get();
+            calls.accept(x);
+            return x;
+        });
+        same(when, got, Transcript.life(maker));
     }
 
     /** A test that checked nothing counts as failed, and so does a sentence. */

@@ -78,10 +78,8 @@ public final class ClearEdgeTest {
         CHECKS.sentence("Promise 7", "clear() empties the cover and the message (n = 0, k = 0) and makes the result "
                 + "absent, in every state.");
         for (State state : State.all()) {
-            CHECKS.same(state.name, Transcript.life(cleared(state)), Transcript.life(state.withColumns()));
-            SyndromeEmbedder twice = cleared(state);
-            twice.clear();
-            CHECKS.same(state.name + ", twice", Transcript.life(twice), Transcript.life(state.withColumns()));
+            CHECKS.same(state.name, Transcript.life(() -> cleared(state)), Transcript.life(state::withColumns));
+            CHECKS.changeNothing(state.name + ", twice", () -> cleared(state), SyndromeEmbedder::clear);
         }
     }
 }

@@ -20,28 +20,28 @@ public final class ColumnEdgeTest {
     private static void columnOutOfRange() {
         CHECKS.sentence("Promise 2", "It answers BAD, and changes nothing, if column is not in 0..w-1");
         for (State state : State.all()) {
-            SyndromeEmbedder x = state.make();
-            for (int column : Ints.outside(0, state.w - 1)) {
-                for (int bits = 0; bits < 1 << state.h; bits++) {
-                    String call = state.name + ": loadColumn(" + column + ", " + bits + ")";
-                    CHECKS.due(call, x.loadColumn(column, bits), BAD);
+            CHECKS.changeNothing(state.name, state::make, x -> {
+                for (int column : Ints.outside(0, state.w - 1)) {
+                    for (int bits = 0; bits < 1 << state.h; bits++) {
+                        String call = state.name + ": loadColumn(" + column + ", " + bits + ")";
+                        CHECKS.due(call, x.loadColumn(column, bits), BAD);
+                    }
                 }
-            }
-            CHECKS.same(state.name, Transcript.life(x), Transcript.life(state.make()));
+            });
         }
     }
 
     private static void bitsOutOfRange() {
         CHECKS.sentence("Promise 2", "It answers BAD, and changes nothing, if .. bits is not in 0..2^h-1.");
         for (State state : State.all()) {
-            SyndromeEmbedder x = state.make();
-            for (int bits : Ints.outside(0, (1 << state.h) - 1)) {
-                for (int column = 0; column < state.w; column++) {
-                    String call = state.name + ": loadColumn(" + column + ", " + bits + ")";
-                    CHECKS.due(call, x.loadColumn(column, bits), BAD);
+            CHECKS.changeNothing(state.name, state::make, x -> {
+                for (int bits : Ints.outside(0, (1 << state.h) - 1)) {
+                    for (int column = 0; column < state.w; column++) {
+                        String call = state.name + ": loadColumn(" + column + ", " + bits + ")";
+                        CHECKS.due(call, x.loadColumn(column, bits), BAD);
+                    }
                 }
-            }
-            CHECKS.same(state.name, Transcript.life(x), Transcript.life(state.make()));
+            });
         }
     }
 
@@ -141,11 +141,11 @@ public final class ColumnEdgeTest {
     private static void columnBitsChangesNothing() {
         CHECKS.sentence("Promise 3", "It changes nothing.");
         for (State state : State.all()) {
-            SyndromeEmbedder x = state.make();
-            for (int column : Ints.any()) {
-                x.columnBits(column);
-            }
-            CHECKS.same(state.name, Transcript.life(x), Transcript.life(state.make()));
+            CHECKS.changeNothing(state.name, state::make, x -> {
+                for (int column : Ints.any()) {
+                    x.columnBits(column);
+                }
+            });
         }
     }
 }

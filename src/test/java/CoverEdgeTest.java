@@ -40,14 +40,15 @@ public final class CoverEdgeTest {
 
     private static void fullWhateverTheArguments() {
         CHECKS.sentence("Promise 4", "First: FULL if n == 10, whatever the arguments.");
-        for (int w = 1; w <= 3; w++) {
-            SyndromeEmbedder x = full(w);
-            for (int bit : Ints.any()) {
-                for (int cost : Ints.any()) {
-                    CHECKS.due("w " + w + ": addCover(" + bit + ", " + cost + ")", x.addCover(bit, cost), FULL);
+        for (int width = 1; width <= 3; width++) {
+            int w = width;
+            CHECKS.changeNothing("w " + w, () -> full(w), x -> {
+                for (int bit : Ints.any()) {
+                    for (int cost : Ints.any()) {
+                        CHECKS.due("w " + w + ": addCover(" + bit + ", " + cost + ")", x.addCover(bit, cost), FULL);
+                    }
                 }
-            }
-            CHECKS.same("w " + w, Transcript.life(x), Transcript.life(full(w)));
+            });
         }
     }
 
@@ -55,13 +56,13 @@ public final class CoverEdgeTest {
         CHECKS.sentence("Promise 4", "Then: BAD if bit is not 0 or 1");
         for (State state : State.all()) {
             if (state.n < 10) {
-                SyndromeEmbedder x = state.make();
-                for (int bit : Ints.notBits()) {
-                    for (int cost : COSTS) {
-                        CHECKS.due(state.name + ": addCover(" + bit + ", " + cost + ")", x.addCover(bit, cost), BAD);
+                CHECKS.changeNothing(state.name, state::make, x -> {
+                    for (int bit : Ints.notBits()) {
+                        for (int cost : COSTS) {
+                            CHECKS.due(state.name + ": addCover(" + bit + ", " + cost + ")", x.addCover(bit, cost), BAD);
+                        }
                     }
-                }
-                CHECKS.same(state.name, Transcript.life(x), Transcript.life(state.make()));
+                });
             }
         }
     }
@@ -70,12 +71,12 @@ public final class CoverEdgeTest {
         CHECKS.sentence("Promise 4", "or if cost is neither WET nor in 0..1000.");
         for (State state : State.all()) {
             if (state.n < 10) {
-                SyndromeEmbedder x = state.make();
-                for (int cost : Ints.notCosts()) {
-                    CHECKS.due(state.name + ": addCover(0, " + cost + ")", x.addCover(0, cost), BAD);
-                    CHECKS.due(state.name + ": addCover(1, " + cost + ")", x.addCover(1, cost), BAD);
-                }
-                CHECKS.same(state.name, Transcript.life(x), Transcript.life(state.make()));
+                CHECKS.changeNothing(state.name, state::make, x -> {
+                    for (int cost : Ints.notCosts()) {
+                        CHECKS.due(state.name + ": addCover(0, " + cost + ")", x.addCover(0, cost), BAD);
+                        CHECKS.due(state.name + ": addCover(1, " + cost + ")", x.addCover(1, cost), BAD);
+                    }
+                });
             }
         }
     }
@@ -167,13 +168,13 @@ public final class CoverEdgeTest {
     private static void setCostOutOfRange() {
         CHECKS.sentence("Promise 5", "It answers BAD, and changes nothing, if index is not in 0..n-1");
         for (State state : State.all()) {
-            SyndromeEmbedder x = state.make();
-            for (int index : Ints.outside(0, state.n - 1)) {
-                for (int cost : COSTS) {
-                    CHECKS.due(state.name + ": setCost(" + index + ", " + cost + ")", x.setCost(index, cost), BAD);
+            CHECKS.changeNothing(state.name, state::make, x -> {
+                for (int index : Ints.outside(0, state.n - 1)) {
+                    for (int cost : COSTS) {
+                        CHECKS.due(state.name + ": setCost(" + index + ", " + cost + ")", x.setCost(index, cost), BAD);
+                    }
                 }
-            }
-            CHECKS.same(state.name, Transcript.life(x), Transcript.life(state.make()));
+            });
         }
     }
 
@@ -195,13 +196,13 @@ public final class CoverEdgeTest {
     private static void setWrongCost() {
         CHECKS.sentence("Promise 5", "or if cost is neither WET nor in 0..1000.");
         for (State state : State.all()) {
-            SyndromeEmbedder x = state.make();
-            for (int index = 0; index < state.n; index++) {
-                for (int cost : Ints.notCosts()) {
-                    CHECKS.due(state.name + ": setCost(" + index + ", " + cost + ")", x.setCost(index, cost), BAD);
+            CHECKS.changeNothing(state.name, state::make, x -> {
+                for (int index = 0; index < state.n; index++) {
+                    for (int cost : Ints.notCosts()) {
+                        CHECKS.due(state.name + ": setCost(" + index + ", " + cost + ")", x.setCost(index, cost), BAD);
+                    }
                 }
-            }
-            CHECKS.same(state.name, Transcript.life(x), Transcript.life(state.make()));
+            });
         }
     }
 
@@ -333,17 +334,17 @@ public final class CoverEdgeTest {
     private static void readersChangeNothing() {
         for (State state : State.all()) {
             CHECKS.sentence("Promise 8", "It changes nothing.");
-            SyndromeEmbedder x = state.make();
-            for (int index : Ints.any()) {
-                x.coverBit(index);
-            }
-            CHECKS.same(state.name, Transcript.life(x), Transcript.life(state.make()));
+            CHECKS.changeNothing(state.name, state::make, x -> {
+                for (int index : Ints.any()) {
+                    x.coverBit(index);
+                }
+            });
             CHECKS.sentence("Promise 9", "It changes nothing.");
-            SyndromeEmbedder y = state.make();
-            for (int index : Ints.any()) {
-                y.coverCost(index);
-            }
-            CHECKS.same(state.name, Transcript.life(y), Transcript.life(state.make()));
+            CHECKS.changeNothing(state.name, state::make, y -> {
+                for (int index : Ints.any()) {
+                    y.coverCost(index);
+                }
+            });
         }
     }
 }

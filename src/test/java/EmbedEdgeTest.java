@@ -24,6 +24,7 @@ public final class EmbedEdgeTest {
         inputsStay();
         documentsExample();
         tieByChangeNumber();
+        tieOfMoreChanges();
         checkNumber("Promise 12", "totalCost() answers the least cost in the result, or NO_RESULT if the result is "
                 + "absent.", 0, SyndromeEmbedder::totalCost);
         checkNumber("Promise 13", "optimalCount() answers the optimal count in the result (at least 1), or NO_RESULT "
@@ -54,9 +55,9 @@ public final class EmbedEdgeTest {
         CHECKS.sentence("Promise 11", "NOT_READY, and nothing changes, if the object is not ready.");
         for (State state : State.all()) {
             if (!state.isReady()) {
-                SyndromeEmbedder x = state.make();
-                CHECKS.due(state.name + ": embed()", x.embed(), NOT_READY);
-                CHECKS.same(state.name, Transcript.life(x), Transcript.life(state.make()));
+                CHECKS.changeNothing(state.name, state::make, x -> {
+                    CHECKS.due(state.name + ": embed()", x.embed(), NOT_READY);
+                });
             }
         }
     }
@@ -202,8 +203,7 @@ public final class EmbedEdgeTest {
         CHECKS.sentence("Promise 11", "An earlier result is replaced, so earlier flips are undone.");
         for (State state : State.all()) {
             if (state.hasResult) {
-                SyndromeEmbedder once = state.make();
-                once.embed();
+                SyndromeEmbedder once = embedded(state);
                 List<String> want = Transcript.readers(once);
                 SyndromeEmbedder x = state.make();
                 for (int i = 0; i < state.n; i++) {
@@ -211,13 +211,20 @@ public final class EmbedEdgeTest {
                     CHECKS.due(state.name + ", flipped " + i + ": embed()", x.embed(), OK);
                     CHECKS.same(state.name + ", flipped " + i, Transcript.readers(x), want);
                 }
-                for (int i = 0; i < state.n; i++) {
-                    x.flip(i);
-                }
-                CHECKS.due(state.name + ", all flipped: embed()", x.embed(), OK);
-                CHECKS.same(state.name + ", all flipped", Transcript.life(x), Transcript.life(once));
+                CHECKS.changeNothing(state.name + ", all flipped", () -> embedded(state), y -> {
+                    for (int i = 0; i < state.n; i++) {
+                        y.flip(i);
+                    }
+                    CHECKS.due(state.name + ", all flipped: embed()", y.embed(), OK);
+                });
             }
         }
+    }
+
+    private static SyndromeEmbedder embedded(State state) {
+        SyndromeEmbedder x = state.make();
+        x.embed();
+        return x;
     }
 
     private static void earlierResultIsReplaced() {
@@ -302,6 +309,24 @@ public final class EmbedEdgeTest {
         }
     }
 
+    private static void tieOfMoreChanges() {
+        CHECKS.sentence("Promise 11, the tie of more changes", "The altered vector and the received vector are both the "
+                + "best solution");
+        SyndromeEmbedder x = new SyndromeEmbedder(2, 3);
+        x.loadColumn(0, 1);
+        x.loadColumn(1, 2);
+        x.loadColumn(2, 3);
+        feed(x, new int[] {1, 0, 1, 0, 0, 0}, new int[] {1, 1, 2, WET, WET, WET}, 1, 0);
+        // Elements 0 and 1 together (number 3) cost what element 2 alone (number 4) does.
+        CHECKS.due("embed()", x.embed(), OK);
+        CHECKS.due("totalCost()", x.totalCost(), 2);
+        CHECKS.due("optimalCount()", x.optimalCount(), 2);
+        int[] altered = {0, 1, 1, 0, 0, 0};
+        for (int i = 0; i < 6; i++) {
+            CHECKS.due("alteredBit(" + i + ")", x.alteredBit(i), altered[i]);
+        }
+    }
+
     private static void checkNumber(String promise, String words, int least,
             ToIntFunction<SyndromeEmbedder> number) {
         CHECKS.sentence(promise, words);
@@ -322,10 +347,10 @@ public final class EmbedEdgeTest {
         }
         CHECKS.sentence(promise, "It changes nothing.");
         for (State state : State.all()) {
-            SyndromeEmbedder x = state.make();
-            number.applyAsInt(x);
-            number.applyAsInt(x);
-            CHECKS.same(state.name, Transcript.life(x), Transcript.life(state.make()));
+            CHECKS.changeNothing(state.name, state::make, x -> {
+                number.applyAsInt(x);
+                number.applyAsInt(x);
+            });
         }
     }
 }

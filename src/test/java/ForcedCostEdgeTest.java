@@ -228,7 +228,15 @@ public final class ForcedCostEdgeTest {
                     CHECKS.same(when, Transcript.readers(x), Transcript.readers(state.make()));
                 }
             }
-            CHECKS.same(state.name, Transcript.life(x), Transcript.life(state.make()));
+            CHECKS.changeNothing(state.name, state::make, ForcedCostEdgeTest::forceAll);
+        }
+    }
+
+    private static void forceAll(SyndromeEmbedder x) {
+        for (int i = -1; i <= 10; i++) {
+            for (int bit = -1; bit <= 2; bit++) {
+                x.forcedCost(i, bit);
+            }
         }
     }
 
@@ -236,14 +244,13 @@ public final class ForcedCostEdgeTest {
         CHECKS.sentence("Promise 17", "The call changes nothing, also when it answers NO_SOLUTION.");
         int refused = 0;
         for (State state : State.all()) {
-            for (int i = 0; i < state.n; i++) {
-                for (int bit = 0; bit <= 1; bit++) {
-                    SyndromeEmbedder x = state.make();
-                    if (x.forcedCost(i, bit) == NO_SOLUTION) {
-                        refused += state.hasResult ? 1 : 0;
-                        String when = state.name + ": forcedCost(" + i + ", " + bit + ")";
-                        CHECKS.same(when, Transcript.life(x), Transcript.life(state.make()));
-                    }
+            for (int number = 0; number < 2 * state.n; number++) {
+                int index = number / 2;
+                int bit = number % 2;
+                if (state.make().forcedCost(index, bit) == NO_SOLUTION) {
+                    refused += state.hasResult ? 1 : 0;
+                    String when = state.name + ": forcedCost(" + index + ", " + bit + ")";
+                    CHECKS.changeNothing(when, state::make, x -> x.forcedCost(index, bit));
                 }
             }
         }

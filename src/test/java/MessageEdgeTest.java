@@ -31,12 +31,13 @@ public final class MessageEdgeTest {
     private static void fullWhateverTheArgument() {
         CHECKS.sentence("Promise 6", "First: FULL if k is the message limit (10, 5, 3 for w = 1, 2, 3), whatever the "
                 + "argument.");
-        for (int w = 1; w <= 3; w++) {
-            SyndromeEmbedder x = full(w);
-            for (int bit : Ints.any()) {
-                CHECKS.due("w " + w + ": addMessage(" + bit + ")", x.addMessage(bit), FULL);
-            }
-            CHECKS.same("w " + w, Transcript.life(x), Transcript.life(full(w)));
+        for (int width = 1; width <= 3; width++) {
+            int w = width;
+            CHECKS.changeNothing("w " + w, () -> full(w), x -> {
+                for (int bit : Ints.any()) {
+                    CHECKS.due("w " + w + ": addMessage(" + bit + ")", x.addMessage(bit), FULL);
+                }
+            });
         }
     }
 
@@ -65,11 +66,11 @@ public final class MessageEdgeTest {
         CHECKS.sentence("Promise 6", "Then: BAD if bit is not 0 or 1.");
         for (State state : State.all()) {
             if (state.k < state.messageLimit()) {
-                SyndromeEmbedder x = state.make();
-                for (int bit : Ints.notBits()) {
-                    CHECKS.due(state.name + ": addMessage(" + bit + ")", x.addMessage(bit), BAD);
-                }
-                CHECKS.same(state.name, Transcript.life(x), Transcript.life(state.make()));
+                CHECKS.changeNothing(state.name, state::make, x -> {
+                    for (int bit : Ints.notBits()) {
+                        CHECKS.due(state.name + ": addMessage(" + bit + ")", x.addMessage(bit), BAD);
+                    }
+                });
             }
         }
     }
@@ -164,11 +165,11 @@ public final class MessageEdgeTest {
     private static void messageBitChangesNothing() {
         CHECKS.sentence("Promise 10", "It changes nothing.");
         for (State state : State.all()) {
-            SyndromeEmbedder x = state.make();
-            for (int row : Ints.any()) {
-                x.messageBit(row);
-            }
-            CHECKS.same(state.name, Transcript.life(x), Transcript.life(state.make()));
+            CHECKS.changeNothing(state.name, state::make, x -> {
+                for (int row : Ints.any()) {
+                    x.messageBit(row);
+                }
+            });
         }
     }
 }

@@ -68,15 +68,6 @@ final class State {
                 .result());
     }
 
-    static State named(String name) {
-        for (State state : all()) {
-            if (state.name.equals(name)) {
-                return state;
-            }
-        }
-        throw new IllegalArgumentException(name);
-    }
-
     private static void losesResult(SyndromeEmbedder x) {
         x.embed();
         x.flip(1);

@@ -1,8 +1,11 @@
 import java.util.ArrayList;
 import java.util.List;
+import java.util.function.Supplier;
 
 /** Calls and their answers written down, so that two objects can be compared in all that they show. */
 final class Transcript {
+    private static final int METHODS = 9;
+
     private final SyndromeEmbedder x;
     private final List<String> lines = new ArrayList<>();
 
@@ -17,11 +20,21 @@ final class Transcript {
         return transcript.lines;
     }
 
-    /** What the object tells now and in a life that goes on to change all it has; the object is used up by this. */
-    static List<String> life(SyndromeEmbedder x) {
-        Transcript transcript = new Transcript(x);
+    /**
+     * What objects made alike tell. Each reading method gets an object that no other has read before, or a method
+     * that wrongly changes something would hide it; one more object goes on to live and change all it has.
+     */
+    static List<String> life(Supplier<SyndromeEmbedder> maker) {
+        List<String> lines = new ArrayList<>();
+        for (int method = 0; method < METHODS; method++) {
+            Transcript first = new Transcript(maker.get());
+            first.read(method);
+            lines.addAll(first.lines);
+        }
+        Transcript transcript = new Transcript(maker.get());
         transcript.live();
-        return transcript.lines;
+        lines.addAll(transcript.lines);
+        return lines;
     }
 
     private void line(String call, int answer) {
@@ -29,23 +42,34 @@ final class Transcript {
     }
 
     private void read() {
-        line("totalCost()", x.totalCost());
-        line("optimalCount()", x.optimalCount());
+        for (int method = 0; method < METHODS - 1; method++) {
+            read(method);
+        }
+    }
+
+    private void read(int method) {
         for (int i = -1; i <= 10; i++) {
-            line("alteredBit(" + i + ")", x.alteredBit(i));
-            line("extractBit(" + i + ")", x.extractBit(i));
-            line("coverBit(" + i + ")", x.coverBit(i));
-            line("coverCost(" + i + ")", x.coverCost(i));
-            line("messageBit(" + i + ")", x.messageBit(i));
+            switch (method) {
+                case 0 -> line("totalCost()", x.totalCost());
+                case 1 -> line("optimalCount()", x.optimalCount());
+                case 2 -> line("extractBit(" + i + ")", x.extractBit(i));
+                case 3 -> line("alteredBit(" + i + ")", x.alteredBit(i));
+                case 4 -> line("coverBit(" + i + ")", x.coverBit(i));
+                case 5 -> line("coverCost(" + i + ")", x.coverCost(i));
+                case 6 -> line("messageBit(" + i + ")", x.messageBit(i));
+                case 7 -> line("columnBits(" + i + ")", x.columnBits(i));
+                default -> force(i);
+            }
         }
-        for (int column = -1; column <= 3; column++) {
-            line("columnBits(" + column + ")", x.columnBits(column));
-        }
+    }
+
+    private void force(int index) {
+        line("forcedCost(" + index + ", 0)", x.forcedCost(index, 0));
+        line("forcedCost(" + index + ", 1)", x.forcedCost(index, 1));
     }
 
     private void live() {
         read();
-        force();
         for (int i = 0; i < 10; i++) {
             line("flip(" + i + ")", x.flip(i));
             read();
@@ -71,7 +95,7 @@ final class Transcript {
         embed();
         x.clear();
         read();
-        force();
+        read(METHODS - 1);
     }
 
     private void load(int column, int bits) {
@@ -82,12 +106,5 @@ final class Transcript {
     private void embed() {
         line("embed()", x.embed());
         read();
-    }
-
-    private void force() {
-        for (int i = 0; i < 10; i++) {
-            line("forcedCost(" + i + ", 0)", x.forcedCost(i, 0));
-            line("forcedCost(" + i + ", 1)", x.forcedCost(i, 1));
-        }
     }
 }
