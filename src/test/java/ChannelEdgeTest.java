@@ -159,8 +159,8 @@ public final class ChannelEdgeTest {
     }
 
     private static void flipLeavesTheRest() {
-        CHECKS.sentence("Promise 15", "Nothing else changes: the result stays present, and the altered vector, the least "
-                + "cost, the optimal count, the cover, the message and the columns stay as they are.");
+        CHECKS.sentence("Promise 15", "Nothing else changes: the result stays present, and the altered vector, the "
+                + "least cost, the optimal count, the cover, the message and the columns stay as they are.");
         for (State state : State.all()) {
             if (state.hasResult) {
                 SyndromeEmbedder x = state.make();
@@ -176,7 +176,8 @@ public final class ChannelEdgeTest {
     }
 
     private static void flipTwice() {
-        CHECKS.sentence("Promise 15", "Flipping the same index a second time restores that bit of the received vector.");
+        CHECKS.sentence("Promise 15",
+                "Flipping the same index a second time restores that bit of the received vector.");
         for (State state : State.all()) {
             if (state.hasResult) {
                 CHECKS.changeNothing(state.name, state::make, x -> {

@@ -59,7 +59,8 @@ public final class CoverEdgeTest {
                 CHECKS.changeNothing(state.name, state::make, x -> {
                     for (int bit : Ints.notBits()) {
                         for (int cost : COSTS) {
-                            CHECKS.due(state.name + ": addCover(" + bit + ", " + cost + ")", x.addCover(bit, cost), BAD);
+                            String call = state.name + ": addCover(" + bit + ", " + cost + ")";
+                            CHECKS.due(call, x.addCover(bit, cost), BAD);
                         }
                     }
                 });
@@ -82,8 +83,8 @@ public final class CoverEdgeTest {
     }
 
     private static void addAppends() {
-        CHECKS.sentence("Promise 4", "Otherwise the element, with bit bit and cost cost, is appended with number n (the "
-                + "old count), n grows by one, the result becomes absent, and the answer is OK.");
+        CHECKS.sentence("Promise 4", "Otherwise the element, with bit bit and cost cost, is appended with number n "
+                + "(the old count), n grows by one, the result becomes absent, and the answer is OK.");
         for (State state : State.all()) {
             for (int cost : COSTS) {
                 SyndromeEmbedder x = state.make();
@@ -285,8 +286,8 @@ public final class CoverEdgeTest {
     }
 
     private static void coverBitAsFed() {
-        CHECKS.sentence("Promise 8", "The answer is the bit as it was fed, never an altered bit; neither embed nor flip "
-                + "has an effect on it.");
+        CHECKS.sentence("Promise 8", "The answer is the bit as it was fed, never an altered bit; neither embed nor "
+                + "flip has an effect on it.");
         for (int pattern = 0; pattern < 1024; pattern += 11) {
             SyndromeEmbedder x = new SyndromeEmbedder(1, 1);
             for (int i = 0; i < 10; i++) {
@@ -312,8 +313,8 @@ public final class CoverEdgeTest {
     }
 
     private static void coverCostOutOfRange() {
-        CHECKS.sentence("Promise 9", "coverCost(index) answers c(index), which is WET or 0..1000, or BAD if index is not "
-                + "in 0..n-1 (so always when the cover is empty).");
+        CHECKS.sentence("Promise 9", "coverCost(index) answers c(index), which is WET or 0..1000, or BAD if index is "
+                + "not in 0..n-1 (so always when the cover is empty).");
         for (State state : State.all()) {
             SyndromeEmbedder x = state.make();
             for (int index : Ints.outside(0, state.n - 1)) {

@@ -176,8 +176,8 @@ public final class EmbedEdgeTest {
     }
 
     private static void freeChangesAreCountedApart() {
-        CHECKS.sentence("Promise 11", "Solutions that differ only at elements of cost 0 are different solutions and are "
-                + "counted separately.");
+        CHECKS.sentence("Promise 11", "Solutions that differ only at elements of cost 0 are different solutions and "
+                + "are counted separately.");
         for (int free = 0; free <= 4; free++) {
             SyndromeEmbedder x = new SyndromeEmbedder(1, 2);
             x.loadColumn(1, 0);
@@ -271,8 +271,8 @@ public final class EmbedEdgeTest {
     }
 
     private static void documentsExample() {
-        CHECKS.sentence("Promise 11", "Four solutions have it, with change numbers 3, 5, 11 and 13, so the optimal count "
-                + "is 4 and the altered vector is 1, 1, 0, 0.");
+        CHECKS.sentence("Promise 11", "Four solutions have it, with change numbers 3, 5, 11 and 13, so the optimal "
+                + "count is 4 and the altered vector is 1, 1, 0, 0.");
         SyndromeEmbedder x = new SyndromeEmbedder(2, 2);
         x.loadColumn(0, 3);
         x.loadColumn(1, 2);
@@ -310,8 +310,8 @@ public final class EmbedEdgeTest {
     }
 
     private static void tieOfMoreChanges() {
-        CHECKS.sentence("Promise 11, the tie of more changes", "The altered vector and the received vector are both the "
-                + "best solution");
+        CHECKS.sentence("Promise 11, the tie of more changes", "The altered vector and the received vector are both "
+                + "the best solution");
         SyndromeEmbedder x = new SyndromeEmbedder(2, 3);
         x.loadColumn(0, 1);
         x.loadColumn(1, 2);

@@ -156,8 +156,8 @@ public final class ForcedCostEdgeTest {
     }
 
     private static void leastAmongAll() {
-        CHECKS.sentence("Promise 17", "forcedCost(index, bit) answers the least cost among all solutions v with v(index) "
-                + "= bit.");
+        CHECKS.sentence("Promise 17", "forcedCost(index, bit) answers the least cost among all solutions v with "
+                + "v(index) = bit.");
         SyndromeEmbedder x = new SyndromeEmbedder(1, 3);
         int[] costs = {10, 20, 40, 7, 5, 3, 1, 1, 1};
         for (int cost : costs) {

@@ -130,8 +130,8 @@ public final class MessageEdgeTest {
     }
 
     private static void messageBitOutOfRange() {
-        CHECKS.sentence("Promise 10", "messageBit(row) answers m(row), 0 or 1, or BAD if row is not in 0..k-1 (so always "
-                + "when the message is empty).");
+        CHECKS.sentence("Promise 10", "messageBit(row) answers m(row), 0 or 1, or BAD if row is not in 0..k-1 (so "
+                + "always when the message is empty).");
         for (State state : State.all()) {
             SyndromeEmbedder x = state.make();
             for (int row : Ints.outside(0, state.k - 1)) {

@@ -52,7 +52,8 @@ public final class StartEdgeTest {
     }
 
     private static void heightOutOfRange() {
-        CHECKS.sentence("Promise 1", "h is height, except that a value below 1 becomes 1 and a value above 4 becomes 4.");
+        CHECKS.sentence("Promise 1",
+                "h is height, except that a value below 1 becomes 1 and a value above 4 becomes 4.");
         for (int height : Ints.outside(1, 4)) {
             int got = heightOf(new SyndromeEmbedder(height, 2));
             CHECKS.due("the height of new(" + height + ", 2)", got, height < 1 ? 1 : 4);
@@ -63,7 +64,8 @@ public final class StartEdgeTest {
     }
 
     private static void widthOutOfRange() {
-        CHECKS.sentence("Promise 1", "w is width, except that a value below 1 becomes 1 and a value above 3 becomes 3.");
+        CHECKS.sentence("Promise 1",
+                "w is width, except that a value below 1 becomes 1 and a value above 3 becomes 3.");
         for (int width : Ints.outside(1, 3)) {
             SyndromeEmbedder x = new SyndromeEmbedder(2, width);
             CHECKS.due("the width of new(2, " + width + ")", widthOf(x), width < 1 ? 1 : 3);
